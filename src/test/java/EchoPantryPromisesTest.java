@@ -620,6 +620,28 @@ public final class EchoPantryPromisesTest {
         refused("p42 replaced", INDEX, () -> x.lineAt(0));
     }
 
+    /** The first and the last letter, in each of the calls that go through the letters. */
+    private static void firstAndLastLetter() {
+        EchoPantry x = new EchoPantry();
+        x.addShelf(2, 5, 'r');
+        x.addJar('z', 1);
+        x.addJar('a', 2);
+        x.hear(0, 'z');
+        x.hear(0, 'a');
+        due("p6 a", 'a', x.jarAt(0));
+        due("p6 z", 'z', x.jarAt(1));
+        due("p16 a", 'a', x.echoAt(0, 0));
+        due("p16 z", 'z', x.echoAt(0, 1));
+        due("p41 a and z", "a2 z1", line(x, 0));
+        due("p45 a and z", 4, execute(x, "say a 3;say z 4;hear 0 z;warm 0 a 9"));
+        due("p35 a", 'a', x.warmingJar(0));
+        x.save();
+        x.removeJar('z');
+        x.removeJar('a');
+        x.restore();
+        due("p50 z", "a2! z4", line(x, 0));
+    }
+
     private static void p43isConsistent() {
         EchoPantry x = three(2, 5, 'l');
         due("p43 new", true, new EchoPantry().isConsistent());
@@ -946,6 +968,7 @@ public final class EchoPantryPromisesTest {
         p36to40statistics();
         p41to42line();
         p41to42more();
+        firstAndLastLetter();
         p43isConsistent();
         p44type();
         p45execute();
