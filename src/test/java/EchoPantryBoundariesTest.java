@@ -399,6 +399,52 @@ public final class EchoPantryBoundariesTest {
         due("eight warmings", 8, made(EIGHT).warmingCount());
     }
 
+    // ---- What it is --------------------------------------------------------------------------
+
+    /** "An object is used for at most 512 calls": the calls are made as often as they may be, each with its answer. */
+    private static void theLastOf512Calls() {
+        Setup heard = x -> {
+            x.addJar('a', 10);
+            x.addShelf(1, 30, 'r');
+            x.hear(0, 'a');
+        };
+        lastCall(heard, 508, 1, (x, i) -> due("pass", 0, x.pass(60)), 30480, x -> x.ageOf(0, 'a'));
+        lastCall(heard, 508, 1, (x, i) -> due("say", i == 0 ? 1 : 0, x.say('a', i % 100)), false, x -> x.isTrue(0, 'a'));
+        lastCall(heard, 508, 1, (x, i) -> due("hear", 10, x.hear(0, 'a')), 508, x -> x.hitsOf(0, 'a'));
+        lastCall(heard, 254, 2, (x, i) -> {
+            due("warm", 0, x.warm(0, 'a', 1));
+            due("pass", 1, x.pass(1));
+        }, 254, EchoPantry::time);
+        lastCall(heard, 254, 2, (x, i) -> {
+            due("removeJar", i == 0 ? 1 : 0, x.removeJar('a'));
+            due("addJar", 1, x.addJar('a', i % 100));
+        }, 53, x -> x.wordOf('a'));
+        lastCall(heard, 254, 2, (x, i) -> {
+            due("say", 1, x.say('a', 11));
+            due("undo", 3, x.undo());
+        }, 10, x -> x.wordOf('a'));
+        lastCall(heard, 169, 3, (x, i) -> {
+            due("save", 1, x.save());
+            due("setListening", true, x.setListening(0, false));
+            due("restore", 1, x.restore());
+        }, true, x -> x.isListening(0));
+        lastCall(heard, 72, 7, (x, i) -> due("execute", 1, execute(x, "pass 9")), 648, EchoPantry::time);
+    }
+
+    private interface Round {
+        void on(EchoPantry x, int round);
+    }
+
+    /** Rounds of some calls each, behind a setup of 3 calls, and the last call. */
+    private static void lastCall(Setup setup, int rounds, int calls, Round round, Object want, Call last) {
+        due("a run of at most 512 calls", true, 3 + rounds * calls + 1 <= 512 && 3 + (rounds + 1) * calls + 1 > 512);
+        EchoPantry x = made(setup);
+        for (int i = 0; i < rounds; i++) {
+            round.on(x, i);
+        }
+        due("the last call", want, answer(x, last));
+    }
+
     // ---- Terms: jars -------------------------------------------------------------------------
 
     /** "There are at most 12 jars." */
@@ -2077,6 +2123,7 @@ public final class EchoPantryBoundariesTest {
     }
 
     private static void terms() {
+        theLastOf512Calls();
         atMostTwelveJars();
         lettersFromAToZ();
         firstAndLastLetter();
